@@ -559,9 +559,9 @@ public final class KeptAnswers {
 
   /** An ASK with its END, SHOWS and COVERS (none if its SHOWS are SPENT). */
   private Sight seenThrough(int ask) {
-    Sight sight = seen(ask);
-    sight.lookThrough(held.asks[ask], held, opened);
-    return sight;
+    sights[ask].look(held.asks[ask], held);
+    sights[ask].lookThrough(held.asks[ask], held, opened);
+    return sights[ask];
   }
 
   private boolean liesWithin(int a, int b) {
@@ -1198,7 +1198,8 @@ public final class KeptAnswers {
           if (Integer.bitCount(set) != many) {
             continue;
           }
-          if (hasCoverIn(set) || opensWithin(set, ask, held, opened)) {
+          boolean isCover = hasCoverIn(set);
+          if (isCover || openSet(opened, set, held) && Leading.isWithin(opened, ask)) {
             noteCover(set);
           }
         }
@@ -1258,7 +1259,8 @@ public final class KeptAnswers {
       return terms;
     }
 
-    private boolean opensWithin(int set, Picture ask, Holding held, Picture opened) {
+    /** Makes a picture the END of what a set opens; false if a NAME of HEAD is in no SHOW of it. */
+    private boolean openSet(Picture opened, int set, Holding held) {
       opened.clear();
       int shown = 0;
       int newName = TERMS;
@@ -1274,7 +1276,7 @@ public final class KeptAnswers {
       }
       opened.copyHead(end);
       opened.becomeEnd(held.keys);
-      return Leading.isWithin(opened, ask);
+      return true;
     }
 
     private void openShow(Picture opened, Picture view, int show, int newName) {
