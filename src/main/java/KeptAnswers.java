@@ -535,7 +535,7 @@ public final class KeptAnswers {
     return seen(ask).spent ? SPENT : 0;
   }
 
-  /** The bit that tells of a row in all tables; TERMS of a PICTURE may stand for x, y, too. */
+  /** The place of a row among the bits of all tables. */
   private static int rowBit(int table, int x, int y) {
     return TABLE_BITS * table + 2 * x + y;
   }
