@@ -169,7 +169,6 @@ public final class KeptAnswers {
     if (fault >= 0) {
       return FAULT - fault;
     }
-    sights[held.askCount].forget();
     held.askCount++;
     return held.askCount - 1;
   }

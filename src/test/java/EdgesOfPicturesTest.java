@@ -163,6 +163,18 @@ final class EdgesOfPicturesTest extends Edges {
     due(1, x.count(0));
   }
 
+  @Says(FAULT) void promise10_ask_anEarlierTextIsInNoLaterOne() {
+    due(-27, Due.ask(x, "0ab,0cd?0ab:abc"));
+    due(-24, Due.ask(x, "0ab,"));
+    due(-25, Due.ask(x, "0ab,0"));
+    due(-26, Due.ask(x, "0ab,0c"));
+    due(0, Due.ask(x, "0ab,0cd:abc"));
+    due(-28, Due.ask(x, "0ab,0cd:"));
+    due(1, Due.ask(x, "0ab,0cd"));
+    due(0, x.steps(1, 3));
+    due(-24, Due.ask(x, "0ab:"));
+  }
+
   @Says("-6 10 (ahead of any FAULT)") void promise10_ask_minus6OfAnEleventh() {
     tenAsks();
     Due.feed(x, "0ab");
@@ -244,6 +256,21 @@ final class EdgesOfPicturesTest extends Edges {
     due(-24, Due.view(x, "0ab:"));
     due(0, x.count(5));
     due(0, Due.view(x, "0ab"));
+  }
+
+  @Says("Likewise a VIEW") void promise11_view_whatAFaultLeftIsInNoLaterOne() {
+    asks("0ab,0ac,0ad,0ae");
+    due(-31, Due.view(x, "0ab,0cd:abda"));
+    views("0ab,0cd:a");
+    due(1, x.shows(0));
+    due(3, x.show(0, 0));
+    due(-39, Due.view(x, "1ab,1bc,1cd,1de:abcd"));
+    views("0ab");
+    due(2, x.shows(0));
+    due(1000, x.show(0, 1));
+    due(0, x.answer(1, true));
+    rows("000");
+    due(1, x.answer(1, true));
   }
 
   @Says("-6 6") void promise11_view_minus6OfASeventh() {

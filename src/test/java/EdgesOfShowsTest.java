@@ -306,6 +306,19 @@ final class EdgesOfShowsTest extends Edges {
     due(0, x.covers(0, 1 << 11 | 3));
   }
 
+  @Says(COVERS) void promise20_covers_allSetsOfEightShows() {
+    views("0ab:ab", "1ab:ab", "2ab,2cd:bd", "2ab:ab");
+    asks("0ab,1bc,2cd,2ce:ad");
+    due(8, x.shows(0));
+    for (int set = 0; set < 256; set++) {
+      if (Integer.bitCount(set) > 3) {
+        no(-6, x.covers(0, set));
+      } else {
+        due(set == 67 ? 1 : 0, x.covers(0, set));
+      }
+    }
+  }
+
   @Says("-1") void promise20_covers_minus1AskBelow() {
     tenAsks();
     no(-1, x.covers(-1, 0));
@@ -416,6 +429,14 @@ final class EdgesOfShowsTest extends Edges {
     for (int views = 0; views < 4; views++) {
       due(1, x.may(0, views));
     }
+  }
+
+  @Says("MAY: 1, 0") void promise21_may_0AgainOnceAKeyIsNoMore() {
+    nothing();
+    due(1, x.may(0, 0));
+    due(1, x.key(0, false));
+    due(0, x.may(0, 0));
+    due(1, x.may(0, 1));
   }
 
   @Says("-1 (VIEWS that there are not, too)") void promise21_may_minus1AskBelow() {

@@ -1153,6 +1153,21 @@ final class EdgesOfTermsTest extends Edges {
     }
   }
 
+  @Says(GIVEN) void terms_given_aNameOfTheFirstOfTwoShowsAskedAhead() {
+    views("0ab:ab", "1ab:b", "2ab:ab");
+    asks("0ab,1dc,2ae:bce");
+    due(1, x.given(2, true));
+    due(1 + 2 * 13 + 3 * 169, x.plan(0));
+  }
+
+  @Says(GIVEN) void terms_given_aValueIsKnownOnceOthersWereAskedToo() {
+    views("0ab:ab", "1ab:b", "2ab:ab");
+    asks("0ab,1dc,21e:bce", "0ab,1dc,20e:bce");
+    due(1, x.given(2, true));
+    due(1 + 2 * 13 + 3 * 169, x.plan(0));
+    due(1 + 2 * 13 + 3 * 169, x.plan(1));
+  }
+
   @Says(GIVEN) void terms_given_aNameNotInAShowAskedAhead() {
     views("0ab:b", "1ab:ab");
     asks("0ab,1ac:b", "0ab,1bc:b");
@@ -1360,6 +1375,22 @@ final class EdgesOfTermsTest extends Edges {
     due(23, x.end(0, 0));
     showsAre(0, 4);
     showsAre(1, 1000);
+  }
+
+  @Says(IMAGE) void terms_image_whatWasSeenOfAnAskIsAsItWasThen() {
+    views("0ab:ab");
+    asks("0ab,0ac");
+    due(1, x.image());
+    keys(0);
+    views("0ab:a");
+    due(1, x.steps(0, 0));
+    showsAre(0, 43, 1003);
+    coverIs(0, 1, 1, 2);
+    due(1, x.restore());
+    due(0, x.steps(0, 0));
+    showsAre(0, 43, 53);
+    coverIs(0, 1, 1, 2);
+    due(1, x.plan(0));
   }
 
   @Says(IMAGE) void terms_image_keptAnswers() {
