@@ -29,10 +29,13 @@ abstract class Edges {
   private Due due;
   private String name;
 
-  /** Runs all tests of a class and ends the run if one failed. */
-  static void run(Class<? extends Edges> tests) throws ReflectiveOperationException {
+  /** Runs all tests of a class, or those whose names begin with a word; ends the run if one failed. */
+  static void run(Class<? extends Edges> tests, String... words) throws ReflectiveOperationException {
     Due due = new Due(tests.getSimpleName());
     for (Method test : testsOf(tests)) {
+      if (words.length > 0 && !test.getName().startsWith(words[0])) {
+        continue;
+      }
       Edges edges = tests.getDeclaredConstructor().newInstance();
       edges.due = due;
       edges.name = test.getName() + " (\"" + test.getAnnotation(Says.class).value() + "\")";

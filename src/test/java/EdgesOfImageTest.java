@@ -4,7 +4,7 @@ final class EdgesOfImageTest extends Edges {
       + "the TEXT, 6 bytes of the BOOK, 7 changes that may be UNDONE, 11 .. 16 REFUSALS -1 .. -6";
 
   public static void main(String[] args) throws Exception {
-    run(EdgesOfImageTest.class);
+    run(EdgesOfImageTest.class, args);
   }
 
   private void sixViews() {

@@ -7,7 +7,7 @@ final class EdgesOfPicturesTest extends Edges {
       + "2 ROWS of its END, 3 how long its HEAD is)";
 
   public static void main(String[] args) throws Exception {
-    run(EdgesOfPicturesTest.class);
+    run(EdgesOfPicturesTest.class, args);
   }
 
   private void fullText() {

@@ -7,7 +7,7 @@ final class EdgesOfShowsTest extends Edges {
   private static final String COVERS = "Whether a set of SHOWS (bits) is a COVER: 1, 0";
 
   public static void main(String[] args) throws Exception {
-    run(EdgesOfShowsTest.class);
+    run(EdgesOfShowsTest.class, args);
   }
 
   /** ASK 0 has 12 SHOWS, none of them a COVER with others; ASK 1 has three. */

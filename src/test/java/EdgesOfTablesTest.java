@@ -3,7 +3,7 @@ final class EdgesOfTablesTest extends Edges {
   private static final String[] ALL_OF_TABLE_2 = {"200", "201", "210", "211"};
 
   public static void main(String[] args) throws Exception {
-    run(EdgesOfTablesTest.class);
+    run(EdgesOfTablesTest.class, args);
   }
 
   private void bitsAre(int rows0, int rows1, int rows2) {

@@ -1,7 +1,7 @@
 /** Boundary cases of the Terms, "Said once more" and REFUSALS among them. */
 final class EdgesOfTermsTest extends Edges {
   public static void main(String[] args) throws Exception {
-    run(EdgesOfTermsTest.class);
+    run(EdgesOfTermsTest.class, args);
   }
 
   /** STEPS of an ASK: how many, whether it is NOTHING, ROWS, how long HEAD is. */

@@ -3,7 +3,7 @@ final class EdgesOfWeekTest extends Edges {
   private static final String[] TEN = {"0ab", "000", "001", "010", "011", "100", "101", "110", "111", "1ab"};
 
   public static void main(String[] args) throws Exception {
-    run(EdgesOfWeekTest.class);
+    run(EdgesOfWeekTest.class, args);
   }
 
   private void sixViews() {

@@ -4,7 +4,7 @@ final class EdgesOfWorldsTest extends Edges {
       "A VIEW's answer is KEPT as it is now (on), or not any more: what it is now";
 
   public static void main(String[] args) throws Exception {
-    run(EdgesOfWorldsTest.class);
+    run(EdgesOfWorldsTest.class, args);
   }
 
   private void sixViews() {
